@@ -683,11 +683,12 @@ public final class EndingCourt {
 
         // Of a SUM that is BOUND: then its least VALUE is at a corner.
         long floorOf(int[] sum) {
-            long least = Long.MAX_VALUE;
+            long least = 0L;
             for (int at = 0; at < 4 * corners; at += 4) {
                 long under = points[at + 3];
                 if (under > 0L) {
-                    least = Math.min(least, Math.floorDiv(valueAt(sum, at), under));
+                    long its = Math.floorDiv(valueAt(sum, at), under);
+                    least = at == 0 ? its : Math.min(least, its);
                 }
             }
             return least;

@@ -521,6 +521,10 @@ public final class PromiseTest {
         due("16 found", x.found(0, 2), 0);
         due("16 size 5 finds the first", x.rank(5), 1);
         due("16 found", x.found(0, 1), 2);
+        due("20 found", x.bound(), 1);
+        due("16 size 1 again", x.rank(1), 0);
+        due("20 the latest found none", x.bound(), -1);
+        due("18 found stays", x.found(0, 1), 2);
         order();
     }
 
@@ -881,6 +885,7 @@ public final class PromiseTest {
         due("22 out", x.round(20), -4);
         due("23 box open", x.box(0, 0), OPEN_END);
 
+        justOut();
         EndingCourt y = withLoop(1);
         y.body();
         y.rule(0, 0, w(-10, 0, 0), 0);
@@ -895,6 +900,31 @@ public final class PromiseTest {
         y.begin(0, 0, -2000000);
         due("22 an open end makes it open", y.round(20), 2);
         due("23 open", y.box(0, 1), OPEN_END);
+    }
+
+    /** x0 becomes 10 x0 + x1: in round 3 it is 1000 x0 + 111 x1. */
+    private static void justOut() {
+        EndingCourt x = withLoop(2);
+        x.body();
+        for (int sign = -1; sign <= 1; sign += 2) {
+            int side = sign > 0 ? 1 : 0;
+            x.rule(0, 0, w(10, sign, 0), 0);
+            x.begin(0, 1 - side, 0);
+            x.begin(0, side, sign * 999889);
+            x.begin(1, 0, 1000);
+            x.begin(1, 1, 1000);
+            due("22 1000000000 is not out", x.round(4), 5);
+            due("23 opened", x.box(0, side), OPEN_END);
+            due("23 other end", x.box(0, 1 - side), 0);
+            due("23 other number", x.box(1, side), 1000);
+            x.begin(0, side, sign * 999890);
+            x.begin(1, 0, 991);
+            x.begin(1, 1, 991);
+            due("22 1000000001 is out", x.round(4), -4);
+            due("23 the box stays", x.box(1, side), 1000);
+            due("22 opened ahead of it", x.round(3), 4);
+            due("23 the box", x.box(1, side), 991);
+        }
     }
 
     private static void box() {
