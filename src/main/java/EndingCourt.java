@@ -62,6 +62,7 @@ public final class EndingCourt {
         program.startAnew(n);
         Arrays.fill(x, 0L);
         beginning.zeroAll();
+        course.forgetRing();
         findings.forgetAll();
         openTheBox();
         return before;
@@ -1068,6 +1069,10 @@ public final class EndingCourt {
         private final long[] far = new long[MOST_NUMBERS];
         private final long[] near = new long[MOST_NUMBERS];
         int lead = NONE;
+
+        void forgetRing() {
+            lead = NONE;
+        }
 
         int findRing(Program program, long[] start, int n) {
             int length = lengthWithin(program, start, n);

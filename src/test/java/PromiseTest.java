@@ -121,7 +121,15 @@ public final class PromiseTest {
         x.guard(0, w(0, 0, 0), -1);
         due("2 rank", x.rank(1), 1);
         due("2 rows", x.rows(1), 1);
+        x.body();
+        due("2 ring", x.ring(1), 1);
+        due("2 found", x.ahead(), 0);
+        due("2 refused", x.loop(4), -1);
+        due("2 a refused one forgets nothing", x.ahead(), 0);
+        due("2 ending", x.ending(), 1);
         due("2 loop again", x.loop(2), 2);
+        due("2 no ring found", x.ahead(), -1);
+        due("2 what was made of CALLS stays", x.made(), 1);
         due("2 no bodies", x.many(-1), 0);
         due("2 box open", x.box(0, 1), OPEN_END);
         due("2 x is 0", x.at(0), 0);
@@ -379,6 +387,22 @@ public final class PromiseTest {
         due("12 ahead", x.ahead(), 1);
         due("11 not within", x.ring(3), 0);
         due("12 the latest above 0", x.ahead(), 1);
+        x.body();
+        x.guard(0, w(0, 0, 0), -1);
+        x.rule(0, 0, w(0, 0, 0), 3);
+        x.open();
+        x.round(1);
+        x.rank(1);
+        x.rows(1);
+        x.clear();
+        due("12 stays behind all but loop()", x.ahead(), 1);
+        x.loop(2);
+        due("12 of a new loop none was above 0 yet", x.ahead(), -1);
+        due("11 no body", x.ring(9), 0);
+        due("12 still none", x.ahead(), -1);
+        x.body();
+        due("11 ring", x.ring(9), 1);
+        due("12 of the new loop", x.ahead(), 0);
     }
 
     private static void ranks() {
