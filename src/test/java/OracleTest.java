@@ -49,6 +49,12 @@ public final class OracleTest {
             draw.askRuns(random);
         }
         for (int round = 0; round < 400; round++) {
+            Draw draw = new Draw(random);
+            draw.askFarBox(random);
+            draw.askFarSums(random);
+            draw.askRuns(random);
+        }
+        for (int round = 0; round < 400; round++) {
             askCalls(random, round);
         }
         askMostMade();
@@ -186,6 +192,93 @@ public final class OracleTest {
                 addBody(random, b);
             }
             told = text.toString();
+        }
+
+        /**
+         * All weights, constants and ends as far out as they may be. Body 0
+         * makes the box wide, but never has its turn; the others lead from x2
+         * to x1 to x0 alone, so that the box holds.
+         */
+        Draw(Random random) {
+            n = 3;
+            wild = true;
+            court.loop(n);
+            text.append("loop(3) ");
+            int bodies = 2 + random.nextInt(4);
+            for (int b = 0; b < bodies; b++) {
+                court.body();
+                text.append("body() ");
+                guards.add(new ArrayList<>());
+                rules.add(new long[3][]);
+                int many = b == 0 ? 2 : random.nextInt(7);
+                for (int g = 0; g < many; g++) {
+                    long[] never = {0, 0, g == 0 ? 1 : -1, g == 0 ? -1 : 0};
+                    tellGuard(b, b == 0 ? never : drawFar(random, 3));
+                }
+                for (int i = 0; i < 3; i++) {
+                    boolean same = b > 0 && random.nextInt(3) == 0;
+                    long[] itself = {i == 0 ? 1 : 0, i == 1 ? 1 : 0, i == 2 ? 1 : 0, 0};
+                    tellRule(b, i, same || i == 2 && b == 0 ? itself : drawFarRule(random, i));
+                }
+            }
+            told = text.toString();
+        }
+
+        private void tellGuard(int b, long[] row) {
+            due("guard", court.guard(b, code(row), (int) row[3]), guards.get(b).size() + 1);
+            text.append("guard(" + b + ", " + code(row) + ", " + row[3] + ") ");
+            guards.get(b).add(row);
+        }
+
+        private void tellRule(int b, int i, long[] row) {
+            due("rule", court.rule(b, i, code(row), (int) row[3]), 0);
+            text.append("rule(" + b + ", " + i + ", " + code(row) + ", " + row[3] + ") ");
+            rules.get(b)[i] = row;
+        }
+
+        private static int far(Random random, int most) {
+            int v = random.nextInt(6) == 0 ? random.nextInt(most + 1) : most - random.nextInt(2);
+            return random.nextBoolean() ? v : -v;
+        }
+
+        private static long[] drawFar(Random random, int parts) {
+            long[] row = new long[4];
+            for (int j = 3 - parts; j < 3; j++) {
+                row[j] = random.nextInt(4) == 0 ? 0 : far(random, 20);
+            }
+            row[3] = far(random, 1000);
+            return row;
+        }
+
+        private static long[] drawFarRule(Random random, int i) {
+            return drawFar(random, 2 - i);
+        }
+
+        void askFarBox(Random random) {
+            Long[][] from = new Long[3][2];
+            for (int i = 0; i < n; i++) {
+                int a = far(random, 1000000);
+                int b = far(random, 1000000);
+                from[i][0] = i < 2 && random.nextInt(9) == 0 ? null : Long.valueOf(Math.min(a, b));
+                from[i][1] = i < 2 && random.nextInt(9) == 0 ? null : Long.valueOf(Math.max(a, b));
+            }
+            askRound(from, 20);
+            if (box[0][0] != null && box[0][1] != null) {
+                seen("far box of " + String.valueOf(box[0][1] - box[0][0]).length() + " digits");
+            }
+        }
+
+        void askFarSums(Random random) {
+            known.clear();
+            for (int k = 0; k < 40; k++) {
+                int[] sum = new int[3];
+                for (int i = 0; i < n; i++) {
+                    sum[i] = random.nextInt(3) == 0 ? 0 : far(random, 100);
+                }
+                askSum(sum);
+            }
+            askRank(1);
+            askRows(1);
         }
 
         private void addBody(Random random, int b) {
@@ -430,13 +523,18 @@ public final class OracleTest {
                 int greatest = least + random.nextInt(wild ? 900000 : 12) - (random.nextInt(20) == 0 ? 3 : 0);
                 from[i][0] = random.nextInt(7) == 0 ? null : Long.valueOf(least);
                 from[i][1] = random.nextInt(7) == 0 ? null : Long.valueOf(greatest);
+            }
+            askRound(from, 1 + random.nextInt(random.nextBoolean() ? 4 : 20));
+        }
+
+        private void askRound(Long[][] from, int w) {
+            for (int i = 0; i < n; i++) {
                 for (int side = 0; side < 2; side++) {
                     int v = from[i][side] == null ? -2000000 : from[i][side].intValue();
                     court.begin(i, side, v);
                     text.append("begin(" + i + ", " + side + ", " + v + ") ");
                 }
             }
-            int w = 1 + random.nextInt(random.nextBoolean() ? 4 : 20);
             text.append("round(" + w + ") ");
             told = text.toString();
             int want = goRound(from, w);
