@@ -157,7 +157,7 @@ public final class EndingCourt {
         }
         learnPlaces();
         Body its = program.bodies[body];
-        int answer = its.binds(asked) ? 4 : 0;
+        int answer = its.place.isBoundBelow(asked) ? 4 : 0;
         if (its.changesAtMost(asked, -1)) {
             answer += 2;
         }
@@ -206,7 +206,7 @@ public final class EndingCourt {
         if (!theBox.encloses(x)) {
             return OPEN;
         }
-        return Math.max(0L, valueOf(findings.ranking, x) - findings.rankingFloor + 1L);
+        return Math.max(0L, findings.rankingAt(x) - findings.rankingFloor + 1L);
     }
 
     public int begin(int i, int side, int v) {
@@ -334,10 +334,6 @@ public final class EndingCourt {
         return v < -limit || v > limit;
     }
 
-    private static long valueOf(int[] weights, long[] point) {
-        return weights[0] * point[0] + weights[1] * point[1] + weights[2] * point[2];
-    }
-
     /** Weights and a constant: a GUARD, or the RULE of a NUMBER. */
     private static final class Affine {
         final int[] weights = new int[MOST_NUMBERS];
@@ -360,7 +356,7 @@ public final class EndingCourt {
         }
 
         long valueAt(long[] point) {
-            return valueOf(weights, point) + constant;
+            return weights[0] * point[0] + weights[1] * point[1] + weights[2] * point[2] + constant;
         }
 
         // The least (side 0) or greatest (side 1) value over a box.
@@ -515,10 +511,6 @@ public final class EndingCourt {
             return true;
         }
 
-        boolean binds(int[] sum) {
-            return place.isBoundBelow(sum);
-        }
-
         boolean changesAtMost(int[] sum, int most) {
             long constant = -most;
             for (int j = 0; j < MOST_NUMBERS; j++) {
@@ -535,7 +527,7 @@ public final class EndingCourt {
         }
 
         boolean ranksBy(int[] sum) {
-            return binds(sum) && changesAtMost(sum, -1);
+            return place.isBoundBelow(sum) && changesAtMost(sum, -1);
         }
     }
 
@@ -939,6 +931,10 @@ public final class EndingCourt {
                 return NO_WEIGHT;
             }
             return sums[MOST_NUMBERS * k + i];
+        }
+
+        long rankingAt(long[] point) {
+            return ranking[0] * point[0] + ranking[1] * point[1] + ranking[2] * point[2];
         }
 
         boolean seekRank(Program program, int size) {

@@ -5,8 +5,12 @@ import java.lang.reflect.Method;
 import java.lang.reflect.Modifier;
 import java.nio.file.Files;
 import java.nio.file.Path;
+import java.util.ArrayList;
 import java.util.Arrays;
+import java.util.List;
+import java.util.Map;
 import java.util.Set;
+import java.util.TreeMap;
 import java.util.TreeSet;
 import java.util.regex.Matcher;
 import java.util.regex.Pattern;
@@ -34,6 +38,7 @@ public final class FaceTest {
         constants();
         face();
         inside();
+        sizes();
         words();
         System.out.println(wrong == 0 ? "the face is as due" : wrong + " rules broken");
         if (wrong != 0) {
@@ -108,9 +113,87 @@ public final class FaceTest {
         }
     }
 
+    private static Path file() {
+        return Path.of(System.getProperty("project.root", "."), "src/main/java/EndingCourt.java");
+    }
+
+    private static String withoutComments() throws IOException {
+        return Files.readString(file()).replaceAll("(?s)/\\*.*?\\*/", "").replaceAll("//[^\n]*", "");
+    }
+
+    private static void sizes() throws IOException {
+        List<Class<?>> classes = new ArrayList<>(Arrays.asList(EndingCourt.class.getDeclaredClasses()));
+        classes.add(EndingCourt.class);
+        for (Class<?> c : classes) {
+            long fields = Arrays.stream(c.getDeclaredFields()).filter(f -> !Modifier.isStatic(f.getModifiers())).count();
+            check(c + " has at most twenty fields", fields <= 20);
+        }
+        Map<String, String> methods = methods(withoutComments());
+        check("methods are found: " + methods.size(), methods.size() > 100);
+        Map<String, Set<String>> callees = new TreeMap<>();
+        for (Map.Entry<String, String> method : methods.entrySet()) {
+            check(method.getKey() + " is short", method.getValue().lines().count() <= 60);
+            callees.put(method.getKey(), calledIn(method.getKey(), method.getValue(), methods.keySet()));
+        }
+        for (String name : methods.keySet()) {
+            int depth = depth(name, callees, 0);
+            check(name + " goes " + depth + " deep", depth <= 8);
+        }
+    }
+
+    /** Class and name, and the lines between the braces. */
+    private static Map<String, String> methods(String text) {
+        Map<String, String> answer = new TreeMap<>();
+        String[] lines = text.split("\n");
+        Pattern kind = Pattern.compile("^ *[\\w ]*class (\\w+) \\{$");
+        Pattern head = Pattern.compile("^( {4}| {8})(?:[\\w\\[\\]]+ )+(\\w+)\\([^)]*\\) \\{$");
+        String inside = "";
+        for (int at = 0; at < lines.length; at++) {
+            Matcher its = kind.matcher(lines[at]);
+            Matcher m = head.matcher(lines[at]);
+            inside = its.matches() ? its.group(1) : inside;
+            if (m.matches()) {
+                StringBuilder body = new StringBuilder();
+                for (int end = at + 1; end < lines.length && !lines[end].equals(m.group(1) + "}"); end++) {
+                    body.append(lines[end]).append('\n');
+                }
+                answer.put(inside + "." + m.group(2), body.toString());
+            }
+        }
+        return answer;
+    }
+
+    /** A name behind a dot is taken as that of any other class's method, another one as of this class or the outer one. */
+    private static Set<String> calledIn(String method, String body, Set<String> all) {
+        Set<String> answer = new TreeSet<>();
+        String own = method.substring(0, method.indexOf('.'));
+        Matcher m = Pattern.compile("(?<!Math|Arrays|System)(\\.?)\\b(\\w+)\\(").matcher(body);
+        while (m.find()) {
+            for (String other : all) {
+                String its = other.substring(0, other.indexOf('.'));
+                boolean near = its.equals(own) || its.equals("EndingCourt");
+                if (other.equals(its + "." + m.group(2)) && (m.group(1).isEmpty() ? near : !other.equals(method))) {
+                    answer.add(other);
+                }
+            }
+        }
+        return answer;
+    }
+
+    private static int depth(String name, Map<String, Set<String>> callees, int open) {
+        int most = 0;
+        for (String other : callees.get(name)) {
+            if (open > 20) {
+                return 1;
+            }
+            most = Math.max(most, depth(other, callees, open + 1));
+        }
+        return 1 + most;
+    }
+
     private static void words() throws IOException {
-        Path file = Path.of(System.getProperty("project.root", "."), "src/main/java/EndingCourt.java");
-        String text = Files.readString(file).replaceAll("(?s)/\\*.*?\\*/", "").replaceAll("//[^\n]*", "");
+        Path file = file();
+        String text = withoutComments();
         String[] never = {"throw", "throws", "try", "catch", "synchronized", "assert", "protected", "package",
             "Random", "Thread", "System\\.(?!arraycopy)\\w+", "\\w+Exact", "->", "::", "Object", "null"};
         for (String word : never) {
