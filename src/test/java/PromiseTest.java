@@ -56,6 +56,7 @@ public final class PromiseTest {
         ranks();
         tells();
         placesOfRatios();
+        crowdedPlaces();
         floor();
         rank();
         rows();
@@ -451,6 +452,22 @@ public final class PromiseTest {
     }
 
     /** The PLACE has ratios, its GUARDS go together, and THE BOX counts. */
+    /** Eleven of twelve planes go through one corner; there is one other corner, at 0, 0, 5. */
+    private static void crowdedPlaces() {
+        EndingCourt x = withLoop(3);
+        x.body();
+        int[][] guards = {{1, 2, 3}, {3, -1, 2}, {-2, 5, 7}, {7, -3, 5}, {-6, -5, 11}, {2, 9, 4}};
+        for (int[] g : guards) {
+            x.guard(0, w(g[0], g[1], g[2]), 0);
+        }
+        x.rule(0, 2, w(0, 0, -1), 5);
+        x.begin(2, 1, 5);
+        due("22 a row from 0 to 5", x.round(1), 1);
+        due("14 not at 0", x.tells(0, 0, 0, 1), 4);
+        due("14 not at 5", x.tells(0, 0, 0, -1), 4);
+        due("14 nothing changes", x.tells(0, 1, -1, 0), 5);
+    }
+
     private static void placesOfRatios() {
         EndingCourt x = withLoop(2);
         x.body();
